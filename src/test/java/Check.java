@@ -68,13 +68,22 @@ final class Check {
         }
     }
 
-    /** All of a kind that is told by boxes, the top one first, as digits of base 100. */
-    static long all(FrostBox x, int what) {
-        long digits = 0;
-        for (int i = 0; i < x.count(1); i++) {
-            digits = digits * 100 + box(x, i, what);
+    /** What is told of all boxes, the top one first. */
+    static int[] all(FrostBox x, int what) {
+        int[] told = new int[Math.max(0, x.count(1))];
+        for (int i = 0; i < told.length; i++) {
+            told[i] = box(x, i, what);
         }
-        return digits;
+        return told;
+    }
+
+    /** Compares what is told of all boxes, the top one first. */
+    static void boxes(String call, FrostBox x, int what, int... want) {
+        int[] got = all(x, what);
+        due(call + ": how many", got.length, want.length);
+        for (int i = 0; i < want.length && i < got.length; i++) {
+            due(call + ": box(" + i + ", " + what + ")", got[i], want[i]);
+        }
     }
 
     static void finish(String name) {

@@ -6,7 +6,7 @@ import java.util.Random;
 
 /** Long runs of calls by draws (of fixed seeds), each answer compared with the Model's. */
 public final class RandomRunsTest {
-    private static final int RUNS = 300;
+    private static final int RUNS = 150;
     private static final int CALLS = 512;
 
     private final Random draws;
