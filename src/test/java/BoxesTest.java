@@ -142,6 +142,14 @@ public final class BoxesTest {
         loss("y:!a=7|n=3?1;y:2", 1);
         loss("y:1;y:2", 1);
         loss("y:a+1=n+5?1;y:2", 1);
+        loss("y:a<8&a=7?1;y:2", 1);
+        loss("y:a>6&a=7?1;y:2", 1);
+        loss("y:!a<8?1;y:2", 2);
+        loss("y:!a>6?1;y:2", 2);
+        loss("y:a=7&(a<8|a=1)&!(a>7)?1;y:2", 1);
+        loss("y:[[[[[[a]+1]+1]-1]-1]*2]/2", 7);
+        loss("y:((((((a=7))))))?1;y:2", 1);
+        loss("y:!!!!!!a=7?1;y:2", 1);
         // Within -1,000,000 .. 1,000,000 behind each sign.
         loss("y:9999*9999=1000*1000?1;y:2", 1);
         loss("y:9999*9999-9999*100=100?1;y:2", 1);
@@ -342,6 +350,17 @@ public final class BoxesTest {
         Check.due("16: beyond 999", x.years(29, 3), Check.NONE);
         Check.due("16: nothing of it", x.count(6), 971);
         Check.due("16: 999", x.years(28, Long.MIN_VALUE), 999);
+        // The habit: never, and by a draw each month though nothing be put in.
+        FrostBox never = Check.house("sr99l99;k");
+        never.habit(0);
+        never.years(60, 5);
+        Check.due("16: never labelled", never.nameless(), (1 << never.count(1)) - 1);
+        for (int habit = 1; habit < 10; habit++) {
+            labelled(habit, 77L * habit);
+        }
+        FrostBox small = Check.house("sr1;k");
+        Check.due("16: none to take", small.years(60, 9), 60);
+        Check.due("16: few were put in", small.count(13) < 30, true);
         // By hand for seed 0: the first draws are of 1442695040888963407 and on.
         FrostBox z = Check.house("k;k;k");
         z.habit(9);
@@ -351,6 +370,32 @@ public final class BoxesTest {
         Check.due("16: kind eaten", z.log(0, 0), (one >>> 33) % 3);
         Check.due("16: portions eaten", z.log(0, 1), (two >>> 33) % 9 + 1);
         Check.due("16: eaten fresh", z.log(0, 2), 0);
+    }
+
+    /** What was put in and not eaten by 60 months, by hand: which boxes have labels. */
+    private static void labelled(int habit, long seed) {
+        String text = "sr99h9l99;kp3o36";
+        FrostBox x = Check.house(text);
+        FrostBox y = Check.house(text);
+        x.habit(habit);
+        long s = seed;
+        for (int i = 0; i < 60; i++) {
+            s = next(next(s));
+            int many = (int) ((s >>> 33) % 9) + 1;
+            s = next(s);
+            y.put(0, many, (s >>> 33) % 10 < habit);
+            s = next(s);
+            y.take((s >>> 33) % 2 == 0 ? 0 : y.count(1) - 1);
+            y.months(1);
+            if (i % 7 == 6) {
+                FrostBox z = Check.house(text);
+                z.habit(habit);
+                z.years(i + 1, seed);
+                Check.due("16: labels behind " + i + " by habit " + habit, z.nameless(), y.nameless());
+            }
+        }
+        x.years(60, seed);
+        Check.due("16: labels by habit " + habit, x.nameless(), y.nameless());
     }
 
     private static long next(long x) {
@@ -456,5 +501,15 @@ public final class BoxesTest {
         Check.due("18: sixty as they were", y.count(13), 60);
         Check.due("18: the latest then", y.log(0, 1), 62 % 9 + 1);
         Check.due("18: the earliest then", y.log(59, 1), 3 % 9 + 1);
+        y.image();
+        for (int i = 0; i < 60; i++) {
+            y.put(0, 1, false);
+            y.take(0);
+        }
+        y.back();
+        for (int i = 0; i < 60; i++) {
+            Check.due("46: the log as it was, " + i, y.log(i, 1), (62 - i) % 9 + 1);
+            Check.due("46: and its values, " + i, y.log(i, 3), (62 - i) % 9 + 1);
+        }
     }
 }

@@ -106,6 +106,10 @@ public final class LooksTest {
         what("31: none is held", y, 0, 0, 0);
         // Alike 0, and that by which fewer are alike.
         what("31: alike", Check.house("k;k"), 0, 500, 0);
+        what("31: one kind", Check.house("k"), 0, 1000, 0);
+        FrostBox first = Check.house("kc1w1;kc2w2;kc2w3");
+        first.peek(0, 1);
+        what("31: the first alone in both", first, 0, 818, 0);
         what("31: colours tell", Check.house("kc1;kc2"), 0, 500, 0);
         what("31: weights tell", Check.house("kw1;kw2"), 0, 500, 1);
         // Twelve looks of nine of ten.
@@ -191,6 +195,14 @@ public final class LooksTest {
         Check.due("34: below 0", x.share(-1), Check.NONE);
         Check.due("34: seven digits", x.share(1500000), Check.NONE);
         Check.due("34: no house", new FrostBox().share(600000), Check.NONE);
+        FrostBox six = Check.house("k;k;k;k;k;k");
+        Check.due("34: of 720 rows none", six.share(111111), 0);
+        for (int i = 0; i < 5; i++) {
+            six.found(i, 5 - i, true);
+        }
+        Check.due("34: the last row alone", six.share(111111), 63);
+        Check.due("33: it alone", six.history(111111, -1), 1);
+        Check.due("33: that", six.history(111111, 0), 543210);
     }
 
     private static void promise35() {

@@ -79,9 +79,21 @@ public final class MealsTest {
         Check.withLaw(y, "y:y+m");
         Check.tell(y, 2, "m3;t0;p010;t1");
         Check.due("20: by the law then", y.run(0, 1), 5 + 6);
+        FrostBox z = Check.house("kp9;k");
+        Check.withLaw(z, "y:a*3");
+        Check.tell(z, 2, "p020;m2;p010;t0;t0");
+        Check.due("20: put in with age 0", z.run(0, 1), 9 + 2 * 3);
     }
 
     private static void promise21() {
+        String sixteen = "p011;t0;p021;t0;p031;t0;p041;t0;m1;c99;m9;p011;p021;t1;t0;m3";
+        FrostBox full = Check.house("kp9;kp1");
+        Check.tell(full, 2, sixteen);
+        Check.due("20: sixteen can be", full.run(0, 0), Check.NONE);
+        Check.due("20: sixteen steps eat", full.run(0, 1), 9 * (1 + 2 + 3 + 4 + 1 + 2));
+        Check.due("21: sixteen are done", full.perform(0), 16);
+        Check.due("21: as acts", full.count(14), 8 + 1 + 1 + 9 + 4 + 3);
+        Check.due("21: and eaten", full.count(12), 9 * (1 + 2 + 3 + 4 + 1 + 2));
         FrostBox x = Check.house("sr20;kp9;kp4;bn3;bk1n2");
         Check.tell(x, 2, "p151;t2;m3;l1;c90;l9;m1");
         Check.due("21: done", x.perform(0), 5);
@@ -136,6 +148,9 @@ public final class MealsTest {
         Check.due("22: cut", u.dinner(10, 1), 890);
         FrostBox v = Check.house("sr99;k;bn9;bn9;bn9;bn3");
         Check.due("22: thirty", v.dinner(30, 0), 15);
+        v.put(0, 9, false);
+        Check.due("22: thirty-nine", v.dinner(30, 0), 15);
+        Check.due("22: but of 31 none is asked", v.dinner(31, 0), Check.NONE);
         FrostBox w = Check.house("kp0;bn3;bn2");
         Check.due("22: of no worth", w.dinner(1, 0), 1);
         Check.due("22: that is 0", w.dinner(1, 1), 0);
@@ -157,6 +172,9 @@ public final class MealsTest {
         for (int what = 0; what < 4; what++) {
             Check.due("23: no boxes, " + what, none.eat(what), 0);
         }
+        FrostBox poor = Check.house("kp0;b;b");
+        Check.due("23: of no worth", poor.eat(1), 0);
+        Check.due("23: in the least order", poor.eat(0), 1);
         Check.due("23: what 4", x.eat(4), Check.NONE);
         Check.due("23: what -1", x.eat(-1), Check.NONE);
         // Ages grow no further than 99.
@@ -257,5 +275,7 @@ public final class MealsTest {
         Check.withLaw(x, "y:a+y");
         Check.due("26: by a law", x.keep(4, 3), 6);
         Check.due("26: of a portion, not of all", x.keep(4, 4), 2);
+        Check.withLaw(x, "y:m");
+        Check.due("26: the month stays", x.keep(50, 9), 2);
     }
 }

@@ -32,6 +32,7 @@ public final class MoreTest {
         Check.due("39: as bits", x.spoilt(), 2 + 8);
         x.months(1);
         Check.due("39: a month later", x.spoilt(), 2 + 4 + 8);
+        Check.due("39: the top one, too", Check.house("kp0;b").spoilt(), 1);
         Check.due("39: no boxes", Check.house("k").spoilt(), 0);
         Check.due("39: no house", new FrostBox().spoilt(), Check.NONE);
     }
@@ -115,6 +116,7 @@ public final class MoreTest {
         Check.due("44: 81", x.make(1, 81), 9);
         Check.due("44: 82", x.make(1, 82), Check.NONE);
         Check.due("44: 90", x.make(1, 90), Check.NONE);
+        Check.due("44: 1", x.make(2, 1), 1);
         Check.due("44: 0", x.make(2, 0), Check.NONE);
         Check.due("44: -4", x.make(0, -4), Check.NONE);
         Check.due("44: no such kind", x.make(3, 1), Check.NONE);
@@ -165,6 +167,23 @@ public final class MoreTest {
         Check.due("46: is on again", y.nameless(), 0);
         y.months(1);
         Check.due("46: falls off again", y.nameless(), 1);
+        // A long log, and much that is eaten behind the image.
+        FrostBox w = Check.house("sr99;kp9o1;kp5");
+        w.years(60, 11);
+        w.years(60, 12);
+        w.image();
+        int[] log = new int[240];
+        for (int i = 0; i < 240; i++) {
+            log[i] = w.log(i / 4, i % 4);
+        }
+        int eaten = w.count(12);
+        w.years(60, 13);
+        w.years(60, 14);
+        Check.due("46: month 120", w.back(), 120);
+        Check.due("46: all eaten", w.count(12), eaten);
+        for (int i = 0; i < 240; i++) {
+            Check.due("46: log " + i, w.log(i / 4, i % 4), log[i]);
+        }
         // An image of an empty log.
         FrostBox z = Check.house("k;b;b");
         z.image();
@@ -199,6 +218,10 @@ public final class MoreTest {
         for (int i = 0; i < counts.length; i++) {
             Check.due("47: count(" + i + ")", x.count(i), counts[i]);
         }
+        Check.tape(x, "y:m");
+        Check.due("47: a third law", x.text(1), 2);
+        x.law(2);
+        Check.due("47: value by the month now", x.count(8), 0 + 4);
         Check.due("47: count(15)", x.count(15), Check.HIDDEN);
         Check.due("47: count(-1)", x.count(-1), Check.HIDDEN);
         Check.due("47: count(1000)", x.count(1000), Check.HIDDEN);

@@ -70,6 +70,18 @@ public final class TextsTest {
         Check.due("2: 241 by two", x.feed(0x20200000, 0, 0, 0, 0), Check.NONE);
         Check.due("2: refused changes nothing", x.count(4), 239);
         Check.due("2: 240", x.feed(0, 0, 0, 0, 0x20), 240);
+        // Each byte of each number is counted before any is taken.
+        for (int i = 0; i < 20; i++) {
+            int[] words = new int[5];
+            words[i / 4] = 1 << 8 * (i % 4);
+            Check.due("2: one byte at " + i, x.feed(words[0], words[1], words[2], words[3], words[4]), Check.NONE);
+            x.end(239);
+            int last = x.feed(words[0], words[1], words[2], words[3], words[4]);
+            Check.due("2: the 240th at " + i, last, 240);
+        }
+        x.end(200);
+        Check.due("2: sixty at a time can't be", x.feed(-1, -1, -1, -1, -1), 220);
+        Check.due("2: twenty more", x.feed(-1, -1, -1, -1, -1), 240);
     }
 
     private static void promise3() {
@@ -197,6 +209,16 @@ public final class TextsTest {
         Check.faults(1, "y:a=1?(1)", 6);
         Check.faults(1, "y:a+(1)", 4);
         Check.faults(1, "y:a\u00ff", 3);
+        Check.faults(1, "y:a=1|?1", 6);
+        Check.faults(1, "y:a=1&?1", 6);
+        Check.faults(1, "y:!?1", 3);
+        Check.faults(1, "y:a=?1", 4);
+        Check.faults(1, "y:1*;y:2", 4);
+        Check.faults(1, "y:1+;y:2", 4);
+        Check.faults(1, "y:;y:2", 2);
+        Check.faults(1, "y:a=1?;y:2", 6);
+        Check.faults(1, "y:()?1", 3);
+        Check.faults(1, "y:[]", 3);
         // A seventh of ( [ ! within one another.
         Check.faults(1, "y:!!!!!!!a=1?1", 8);
         Check.faults(1, "y:((((((([", 8);
@@ -251,9 +273,15 @@ public final class TextsTest {
         Check.due("5: no such sort -1", x.text(-1), Check.NONE);
         Check.due("5: no such sort 3", x.text(3), Check.NONE);
         Check.due("5: stays too", x.count(4), 1);
+        Check.tape(x, "t0");
+        Check.due("5: a plan as sort 3", x.text(3), Check.NONE);
+        Check.due("5: a plan as sort -1", x.text(-1), Check.NONE);
+        Check.due("5: a plan as a house", x.text(0), Check.NONE);
         for (int i = 0; i < 4; i++) {
             Check.due("5: law", Check.tell(x, 1, "y:" + i), i);
+            Check.due("5: its tape is empty", x.count(4), 0);
             Check.due("5: plan", Check.tell(x, 2, "t" + i), i);
+            Check.due("5: its tape is empty, too", x.count(4), 0);
         }
         Check.tape(x, "y:5");
         Check.due("5: a fifth law has no fault", x.fault(1), Check.NONE);
@@ -290,6 +318,27 @@ public final class TextsTest {
         Check.due("5: the first told the lowest", Check.box(x, 1, 0), 1);
         Check.due("5: label told", x.nameless(), 2);
         Check.due("5: plan stays", x.run(0, 0), Check.NONE);
+        // What was read before, as another house or for a fault, leaves nothing behind.
+        Check.tape(x, "sr9;k;k;k;bn3;bn4;x");
+        x.fault(0);
+        x.fault(0);
+        Check.due("5: a third house", Check.tell(x, 0, "k;bn1"), 1);
+        Check.due("5: its boxes", x.count(1), 1);
+        Check.due("5: its room", x.rule(0), 40);
+        Check.due("5: a fourth house", Check.tell(x, 0, "k;k;s"), 2);
+        Check.due("5: has none", x.count(1), 0);
+        Check.due("5: a fifth house", Check.tell(x, 0, "s;kp7"), 1);
+        Check.due("5: its worth", x.kind(0, 3), 7);
+        FrostBox y = Check.house("kp9;bn1");
+        Check.tape(y, "y:5;y:x");
+        y.fault(1);
+        Check.withLaw(y, "y:a");
+        Check.due("5: no law read before", y.count(8), 9);
+        Check.tape(y, "t0;t0;t0;x");
+        y.fault(2);
+        Check.tell(y, 2, "m3");
+        Check.due("5: no plan read before", y.step(0, 1, 0), Check.HIDDEN);
+        Check.due("5: all of it can be", y.run(0, 0), Check.NONE);
     }
 
     private static void promise19() {
