@@ -77,6 +77,7 @@ public final class FrostBox {
     private final Looks looks = new Looks();
     private final Past past = new Past();
     private final int[] bestOfSet = new int[1 << BOXES_MOST];
+    private final int[] firstOfSet = new int[1 << BOXES_MOST];
     private final int[] valuesByPlace = new int[BOXES_MOST];
 
     public FrostBox() {
@@ -596,17 +597,20 @@ public final class FrostBox {
         return what == 0 ? bestOrder() : bestOfSet[(1 << now.size) - 1];
     }
 
-    /** For each set of boxes still there (bits by index) the most that can be eaten of them. */
+    /** For each set of boxes still there (bits by index) the most that can be eaten of them, and by which first. */
     private void fillBest() {
         bestOfSet[0] = 0;
         for (int left = 1; left < 1 << now.size; left++) {
-            int most = 0;
-            for (int i = 0; i < now.size; i++) {
-                if ((left >> i & 1) == 1) {
-                    most = Math.max(most, bestWithFirst(left, i));
+            bestOfSet[left] = NONE;
+            // From place 0 on, and only by more: of several orders that of the least digits stays.
+            for (int place = 0; place < now.size; place++) {
+                int i = now.indexOf(place);
+                int eaten = (left >> i & 1) == 1 ? bestWithFirst(left, i) : NONE;
+                if (eaten > bestOfSet[left]) {
+                    bestOfSet[left] = eaten;
+                    firstOfSet[left] = place;
                 }
             }
-            bestOfSet[left] = most;
         }
     }
 
@@ -620,21 +624,11 @@ public final class FrostBox {
         int left = (1 << now.size) - 1;
         int digits = 0;
         for (int turn = 0; turn < now.size; turn++) {
-            int place = firstOfBest(left);
+            int place = firstOfSet[left];
             digits = digits * 10 + place;
             left &= ~(1 << now.indexOf(place));
         }
         return digits;
-    }
-
-    private int firstOfBest(int left) {
-        for (int place = 0; place < now.size; place++) {
-            int i = now.indexOf(place);
-            if ((left >> i & 1) == 1 && bestWithFirst(left, i) == bestOfSet[left]) {
-                return place;
-            }
-        }
-        return 0;
     }
 
     private int eatenInTurn(boolean fromTop) {
