@@ -35,15 +35,6 @@ public final class ActBoundsTest {
         Check.finish("ActBoundsTest");
     }
 
-    private static FrostBox atMonth(String house, int month) {
-        FrostBox x = Check.house(house);
-        for (int left = month; left > 0; left -= 60) {
-            x.months(Math.min(60, left));
-        }
-        Check.due("the month of " + house, x.count(6), month);
-        return x;
-    }
-
     // ---- "a BOX is PUT in on top (AGE 0), if there is ROOM for its PORTIONS, and fewer than 8"
 
     private static void room() {
@@ -238,7 +229,7 @@ public final class ActBoundsTest {
 
     private static void monthsAtMost() {
         for (int left = 1; left <= 60; left++) {
-            FrostBox x = atMonth("k;b", 999 - left);
+            FrostBox x = Check.atMonth("k;b", 999 - left);
             if (left < 60) {
                 Check.due("months beyond 999 by one", x.months(left + 1), Check.NONE);
                 Check.due("years beyond 999 by one", x.years(left + 1, 1), Check.NONE);
@@ -250,7 +241,7 @@ public final class ActBoundsTest {
             Check.due("999", x.count(6), 999);
             Check.due("one box still", x.count(1), 1);
         }
-        FrostBox y = atMonth("k;b", 999);
+        FrostBox y = Check.atMonth("k;b", 999);
         Check.due("what is no month goes on", y.put(0, 1, true), 2);
         Check.due("hours, too", y.off(99) > 0, true);
         Check.due("put undone", y.undo() >= 0 && y.undo() >= 0, true);
@@ -302,7 +293,7 @@ public final class ActBoundsTest {
         y.months(1);
         Check.due("three", y.nameless(), 3);
         // Put in with a label late.
-        FrostBox z = atMonth("sl5;k", 990);
+        FrostBox z = Check.atMonth("sl5;k", 990);
         z.put(0, 1, true);
         z.months(4);
         Check.due("four behind 990", z.nameless(), 0);
@@ -481,7 +472,7 @@ public final class ActBoundsTest {
     // ---- "DO: its STEPS as ACTS, up to there"; MONTHS beyond 999
 
     private static void plan(String house, int month, String plan, int stops, int eaten) {
-        FrostBox x = atMonth(house, month);
+        FrostBox x = Check.atMonth(house, month);
         int acts = x.count(14);
         Check.tell(x, 2, plan);
         int steps = plan.split(";").length;
@@ -730,7 +721,7 @@ public final class ActBoundsTest {
         Check.due("acts behind it", x.undo(), 1);
         Check.due("back once more", x.back(), 1);
         Check.due("and at once again", x.back(), 1);
-        FrostBox y = atMonth("k;b", 999);
+        FrostBox y = Check.atMonth("k;b", 999);
         Check.due("an image at 999", y.image(), 999);
         y.take(0);
         Check.due("back at 999", y.back(), 999);

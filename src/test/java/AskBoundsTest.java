@@ -38,14 +38,6 @@ public final class AskBoundsTest {
         Check.finish("AskBoundsTest");
     }
 
-    private static FrostBox atMonth(String house, int month) {
-        FrostBox x = Check.house(house);
-        for (int left = month; left > 0; left -= 60) {
-            x.months(Math.min(60, left));
-        }
-        return x;
-    }
-
     // ---- DINNER
 
     /** "DINNER for n (1 .. 30) PORTIONS: sets of BOXES .. with n PORTIONS or more". */
@@ -194,7 +186,7 @@ public final class AskBoundsTest {
 
     /** "(What would be goes on behind MONTH 999.)" */
     private static void behindMonth999() {
-        FrostBox x = atMonth("kp9;bn1;bn1", 999);
+        FrostBox x = Check.atMonth("kp9;bn1;bn1", 999);
         Check.withLaw(x, "y:m-999");
         Check.due("eat at 999", x.eat(1), 9 + 8);
         Check.due("from below", x.eat(2), 17);
@@ -215,7 +207,7 @@ public final class AskBoundsTest {
     /** Hours are no months: y and m stay as they are. */
     private static void hoursAndTheMonth() {
         for (int month = 0; month <= 9; month++) {
-            FrostBox x = atMonth("sh0;kp9;bn1;bn2", month);
+            FrostBox x = Check.atMonth("sh0;kp9;bn1;bn2", month);
             Check.withLaw(x, "y:m");
             for (int n : new int[] {1, 2, 50, 99}) {
                 Check.due("costs(" + n + ") in month " + month, x.costs(n), 0);
@@ -430,6 +422,10 @@ public final class AskBoundsTest {
         Check.due("three of one colour, two of one weight", Check.house("kc1w1;kc1w1;kc1w2;kc2w2").what(2), 1);
         Check.due("two of one colour, three of one weight", Check.house("kc1w1;kc1w1;kc2w1;kc2w2").what(2), 0);
         // By what is held, not by how many.
+        FrostBox sure = Check.house("se0;kc1w1;kc1w2;kc2w2");
+        sure.peek(1, 1);
+        // 10, 0, 0: by colour 10, by weight 10.
+        Check.due("one held alone", sure.what(2), 0);
         FrostBox x = Check.house("kc1w1;kc1w2;kc2w3;kc2w3");
         Check.due("as many", x.what(2), 0);
         x.peek(1, 1);

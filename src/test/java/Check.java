@@ -48,6 +48,16 @@ final class Check {
         return x;
     }
 
+    /** A house behind so many months. */
+    static FrostBox atMonth(String text, int month) {
+        FrostBox x = house(text);
+        for (int left = month; left > 0; left -= 60) {
+            x.months(Math.min(60, left));
+        }
+        due("the month of " + text, x.count(6), month);
+        return x;
+    }
+
     static void withLaw(FrostBox x, String text) {
         int law = tell(x, 1, text);
         due("law told: " + text, law != NONE && x.law(law), true);

@@ -411,6 +411,9 @@ public final class TextBoundsTest {
         Check.due("118 products", loss(padded("y:1" + times("*1", 117) + "*7"), 0), 7);
         Check.due("118 divisions", loss(padded("y:8" + times("/1", 117) + "/2"), 0), 4);
         Check.due("117 ages", loss(padded("y:a" + times("+a", 116) + "-116"), 1), 1);
+        String sums = padded("y:a" + times("+a", 108) + "=109?3;y:4");
+        Check.due("109 ages in a condition", loss(sums, 1), 3);
+        Check.due("not so", loss(sums, 2), 4);
         String clauses = padded(times("y:a=9?1;", 29) + "y:5");
         Check.due("thirty clauses, the last", loss(clauses, 0), 5);
         Check.due("thirty clauses, the first", loss(clauses, 9), 1);
